@@ -236,7 +236,8 @@ public final class DisjointPaths {
     private int neighboursOf(int set) {
         int found = 0;
         for (int v = 0; v < count; v++) {
-            if (contains(set, v)) {
+            // Not by contains(): with it calls would go seven deep, the first one from outside counted.
+            if (((set >> v) & 1) != 0) {
                 found |= neighbours[v];
             }
         }

@@ -13,7 +13,6 @@ public final class OracleTest {
         -1, -2, 8, 9, 31, 32, 33, 39, 64, 255, 256, 1 << 30, Integer.MIN_VALUE, Integer.MAX_VALUE,
     };
 
-    private static int wrong = 0;
     // A fixed beginning, so that every run of the test makes the same calls.
     private static long dice = 20240607L;
 
@@ -21,46 +20,63 @@ public final class OracleTest {
         for (int n = 3; n <= 5; n++) {
             allGraphs(n);
         }
+        allGraphsOfSix();
         for (int run = 0; run < 140; run++) {
             longRun(run);
         }
-        System.out.println(wrong == 0 ? "all answers are as due" : wrong + " answers are not as due");
-        if (wrong != 0) {
-            System.exit(1);
-        }
+        Due.end();
     }
 
     private static void allGraphs(int n) {
         int pairs = n * (n - 1) / 2;
         for (int edges = 0; edges < 1 << pairs; edges++) {
-            DisjointPaths x = new DisjointPaths(n);
-            Oracle o = new Oracle(n);
-            int pair = 0;
-            for (int u = 0; u < n; u++) {
-                for (int v = u + 1; v < n; v++) {
-                    int on = (edges >> pair) & 1;
-                    due("edge", x.edge(u, v, on), o.edge(u, v, on));
-                    pair++;
-                }
-            }
+            // One object for all ends would be asked more than 512 times.
             for (int s = 0; s < n; s++) {
-                for (int t = 0; t < n; t++) {
-                    String where = "graph " + edges + " of " + n + ", ends(" + s + ", " + t + "), ";
-                    due(where + "answer", x.ends(s, t), o.ends(s, t));
-                    askAll(where, x, o);
-                }
+                allTargets(n, edges, s);
             }
-            due("clear of graph " + edges, x.clear(), o.clear());
+        }
+    }
+
+    private static void allTargets(int n, int edges, int s) {
+        DisjointPaths x = new DisjointPaths(n);
+        Oracle o = new Oracle(n);
+        putEdges(edges, x, o);
+        for (int t = 0; t < n; t++) {
+            String where = "graph " + edges + " of " + n + ", ends(" + s + ", " + t + "), ";
+            Due.is(where + "answer", x.ends(s, t), o.ends(s, t));
+            askAll(where, x, o);
+        }
+        Due.is("clear of graph " + edges, x.clear(), o.clear());
+    }
+
+    /** With the ends of a new object alone: any others are these ones with the vertices named otherwise. */
+    private static void allGraphsOfSix() {
+        for (int edges = 0; edges < 1 << 15; edges++) {
+            DisjointPaths x = new DisjointPaths(6);
+            Oracle o = new Oracle(6);
+            putEdges(edges, x, o);
+            askAll("graph " + edges + " of 6, ", x, o);
+        }
+    }
+
+    private static void putEdges(int edges, DisjointPaths x, Oracle o) {
+        int pair = 0;
+        for (int u = 0; u < o.n; u++) {
+            for (int v = u + 1; v < o.n; v++) {
+                int on = (edges >> pair) & 1;
+                Due.is("edge", x.edge(u, v, on), o.edge(u, v, on));
+                pair++;
+            }
         }
     }
 
     private static void askAll(String where, DisjointPaths x, Oracle o) {
         for (int kind = 3; kind <= 10; kind++) {
-            due(where + "call " + kind, call(x, kind, 0, 0, 0), o.call(kind, 0, 0, 0));
+            Due.is(where + "call " + kind, call(x, kind, 0, 0, 0), o.call(kind, 0, 0, 0));
         }
         for (int v = -1; v <= o.n; v++) {
-            due(where + "cutWith(" + v + ")", x.cutWith(v), o.cutWith(v));
-            due(where + "loss(" + v + ")", x.loss(v), o.loss(v));
+            Due.is(where + "cutWith(" + v + ")", x.cutWith(v), o.cutWith(v));
+            Due.is(where + "loss(" + v + ")", x.loss(v), o.loss(v));
         }
     }
 
@@ -79,7 +95,7 @@ public final class OracleTest {
             int b = argument(o.n);
             int on = roll(8) < taking ? 0 : roll(4) == 0 ? (int) next() : 1;
             String what = "run " + run + ", call " + i + ", kind " + kind + " (" + a + ", " + b + ", " + on + ")";
-            due(what, call(x, kind, a, b, on), o.call(kind, a, b, on));
+            Due.is(what, call(x, kind, a, b, on), o.call(kind, a, b, on));
         }
     }
 
@@ -113,15 +129,6 @@ public final class OracleTest {
     private static long next() {
         dice = dice * 6364136223846793005L + 1442695040888963407L;
         return dice;
-    }
-
-    private static void due(String what, int got, int want) {
-        if (got != want) {
-            wrong++;
-            if (wrong <= 50) {
-                System.out.println(what + ": answered " + got + ", due is " + want);
-            }
-        }
     }
 
     private static final class Oracle {
