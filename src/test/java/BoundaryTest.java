@@ -45,6 +45,7 @@ public final class BoundaryTest {
         aCutIsWithoutSourceAndTarget();
         noCallEverThrows();
         questionsChangeNothing();
+        objectsAreApart();
     }
 
     /** Every call in turn as the 512th one, after 511 that came to a graph of all edges, ends 0 and 7. */
@@ -194,6 +195,20 @@ public final class BoundaryTest {
                 changesNothing("loss(" + v + ")", b, x -> x.loss(vertex));
                 changesNothing("joined(0, " + v + ")", b, x -> x.joined(0, vertex));
             }
+        }
+    }
+
+    /** What is promised of an object holds whatever calls another one gets in between. */
+    private static void objectsAreApart() {
+        for (Beginning b : BEGINNINGS) {
+            DisjointPaths x = b.make();
+            DisjointPaths other = new DisjointPaths(11 - b.n());
+            other.ends(2, 0);
+            other.edge(0, 1, 1);
+            other.edge(1, 2, 1);
+            Due.is("of another object: " + b.name(), other.paths(), 1);
+            other.clear();
+            Due.is("calls of another object, " + b.name(), State.of(x), State.of(b.make()));
         }
     }
 

@@ -19,9 +19,11 @@ public final class LanguageTest {
         + "|\\bstatic\\s*\\{|->|::|\"|\\b\\w+\\.\\w+");
     private static final Pattern ARRAY_FIELD =
         Pattern.compile("    private final (\\w+)\\[\\] \\w+ = new \\1\\[([1-9]\\d*|[A-Z_]+)\\];");
+    private static final Pattern CONSTANT =
+        Pattern.compile("    (public|private) static final (int|long) [A-Z_]+ = -?\\d+;");
     private static final Pattern HEAD = Pattern.compile("    (public|private) .*?(\\w+)\\((.*)\\) \\{");
     private static final Pattern CALL = Pattern.compile("\\b(?!if\\b|for\\b|while\\b|switch\\b|return\\b)(\\w+)\\(");
-    private static final Pattern COUNTED = Pattern.compile("for \\(int (\\w+) = [^;]+; \\1 <=? \\w+; \\1\\+\\+\\)");
+    private static final Pattern COUNTED = Pattern.compile("for \\(int (\\w+) = [^;]+; \\1 <=? (\\w+); \\1\\+\\+\\)");
     private static final int MOST_LINES = 60;
     private static final int MOST_DEEP = 6;
     private static final int MOST_FIELDS = 40;
@@ -30,6 +32,7 @@ public final class LanguageTest {
         String code = Files.readString(SOURCE).replaceAll("(?s)/\\*.*?\\*/", " ").replaceAll("//[^\n]*", "");
         Map<String, String> bodies = bodies(code);
         nothingRuledOut(code);
+        staticFieldsAreConstants(code);
         arraysAreMadeInFields(code);
         loopsAreCounted(bodies);
         callsStandAlone(code);
@@ -64,6 +67,14 @@ public final class LanguageTest {
         }
     }
 
+    private static void staticFieldsAreConstants(String code) {
+        for (String line : code.split("\n")) {
+            if (line.matches(".*\\bstatic\\b[^(]*[=;].*")) {
+                Due.holds("rule 5: " + line, CONSTANT.matcher(line).matches());
+            }
+        }
+    }
+
     private static void arraysAreMadeInFields(String code) {
         int fields = 0;
         for (String line : code.split("\n")) {
@@ -83,9 +94,27 @@ public final class LanguageTest {
             Matcher loop = Pattern.compile("for \\([^{]*\\)").matcher(body);
             while (loop.find()) {
                 Matcher counted = COUNTED.matcher(loop.group());
-                Due.holds("rule 8: " + loop.group(), counted.matches());
+                if (counted.matches()) {
+                    boundIsKept(body, counted.group(1), counted.group(2));
+                } else {
+                    Due.is("rule 8: " + loop.group(), "not counted", "counted");
+                }
             }
         }
+    }
+
+    private static void boundIsKept(String body, String counter, String bound) {
+        int loops = countOf("for \\(int " + counter + "\\b", body);
+        String change = "\\b%1$s *(\\+\\+|--|([-+*/%%&|^]|<<|>>>?)?=(?!=))|(\\+\\+|--)%1$s\\b";
+        // Each head has two: the counter's beginning and its step.
+        int ofCounter = countOf(String.format(change, counter), body);
+        Due.is("rule 8: changes of the counter " + counter, ofCounter, 2 * loops);
+        int ofBound = countOf(String.format(change, bound), body);
+        Due.holds("rule 8: changes of the bound " + bound + ": " + ofBound, ofBound <= 1);
+    }
+
+    private static int countOf(String pattern, String body) {
+        return (int) Pattern.compile(pattern).matcher(body).results().count();
     }
 
     private static void callsStandAlone(String code) {
